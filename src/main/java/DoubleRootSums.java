@@ -29,7 +29,7 @@ public final class DoubleRootSums {
     private final Steps steps;
     private final Lists lists;
     private final SetUp text;
-    private final StringBuilder paper;
+    private final StringBuilder written;
     private final Failures failures;
     /** What is TOLD of a SUM that is to come, by EXPONENT; one place more than there may be EXPONENTS. */
     private final int[] fresh;
@@ -46,7 +46,7 @@ public final class DoubleRootSums {
         steps = new Steps();
         lists = new Lists();
         text = new SetUp();
-        paper = new StringBuilder();
+        written = new StringBuilder();
         failures = new Failures();
         fresh = new int[TOP_EXPONENT + 2];
     }
@@ -478,23 +478,23 @@ public final class DoubleRootSums {
             return NONE;
         }
         lookAt(sum);
-        paper.setLength(0);
+        written.setLength(0);
         for (int place = terms.exponents.many - 1; place >= 0; place--) {
             if (terms.numberAt(place) != 0) {
-                if (paper.length() > 0) {
-                    paper.append('+');
+                if (written.length() > 0) {
+                    written.append('+');
                 }
-                paper.append(terms.numberAt(place)).append('x').append(terms.exponents.exponentAt(place));
+                written.append(terms.numberAt(place)).append('x').append(terms.exponents.exponentAt(place));
             }
         }
-        if (paper.length() == 0) {
-            paper.append('0');
+        if (written.length() == 0) {
+            written.append('0');
         }
-        return paper.length();
+        return written.length();
     }
 
     public int paper(int i) {
-        return i < 0 || i >= paper.length() ? NONE : paper.charAt(i);
+        return i < 0 || i >= written.length() ? NONE : written.charAt(i);
     }
 
     public int back() {
@@ -591,7 +591,7 @@ public final class DoubleRootSums {
             case 4:
                 return text.many;
             case 5:
-                return paper.length();
+                return written.length();
             case 6:
                 return steps.many;
             case 7:
@@ -903,13 +903,15 @@ public final class DoubleRootSums {
         }
     }
 
-    /** Numbers MODULO p, with a table of their powers, made anew only if p is another. */
+    /** Numbers MODULO p, with tables of what is often asked, made anew only if p is another. */
     static final class Field {
         int p;
         private final int[][] powers;
+        private final int[] overs;
 
         Field() {
             powers = new int[TOP_NUMBER + 1][TOP_EXPONENT + 1];
+            overs = new int[TOP_NUMBER + 1];
         }
 
         void become(int modulus) {
@@ -922,7 +924,17 @@ public final class DoubleRootSums {
                 for (int e = 1; e <= TOP_EXPONENT; e++) {
                     powers[x][e] = mod(powers[x][e - 1] * x);
                 }
+                overs[x] = findOver(x);
             }
+        }
+
+        private int findOver(int x) {
+            for (int y = 1; y < p; y++) {
+                if (mod(x * y) == 1) {
+                    return y;
+                }
+            }
+            return 0;
         }
 
         int mod(int v) {
@@ -948,12 +960,12 @@ public final class DoubleRootSums {
 
         /** OVER x; 0, if x is 0. */
         int over(int x) {
-            for (int y = 1; y < p; y++) {
-                if (mod(x * y) == 1) {
-                    return y;
-                }
-            }
-            return 0;
+            return x < 0 || x >= overs.length ? 0 : overs[x];
+        }
+
+        /** The powers 0 .. 12 of x (0 .. p less 1). */
+        int[] powersOf(int x) {
+            return powers[x < 0 || x >= powers.length ? 0 : x];
         }
     }
 
@@ -1121,19 +1133,21 @@ public final class DoubleRootSums {
         }
 
         int valueAt(int x) {
+            int[] powers = field.powersOf(x);
             int gathered = 0;
             for (int place = 0; place < exponents.many; place++) {
-                gathered += numbers[place] * field.power(x, exponents.exponentAt(place));
+                gathered += numbers[place] * powers[exponents.exponentAt(place)];
             }
             return field.mod(gathered);
         }
 
         int slopeAt(int x) {
+            int[] powers = field.powersOf(x);
             int gathered = 0;
             for (int place = 0; place < exponents.many; place++) {
                 int e = exponents.exponentAt(place);
                 if (e > 0) {
-                    gathered += numbers[place] * e * field.power(x, e - 1);
+                    gathered += numbers[place] * e * powers[e - 1];
                 }
             }
             return field.mod(gathered);
