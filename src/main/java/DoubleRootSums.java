@@ -805,6 +805,24 @@ public final class DoubleRootSums {
         return greater;
     }
 
+    /** The first row from a place on (below an end) whose number in a column isn't 0; -1: there is none. */
+    private static int rowNotZero(int[][] cells, int column, int from, int end) {
+        for (int i = from; i < end; i++) {
+            if (cells[i][column] != 0) {
+                return i;
+            }
+        }
+        return -1;
+    }
+
+    private static void swapRows(int[][] cells, int one, int other, int columns) {
+        for (int j = 0; j < columns; j++) {
+            int had = cells[one][j];
+            cells[one][j] = cells[other][j];
+            cells[other][j] = had;
+        }
+    }
+
     /** What THE IMAGE holds: PRIME, SUPPORTS, SUMS, SEEN. */
     static final class Stock {
         int prime;
@@ -955,7 +973,7 @@ public final class DoubleRootSums {
         }
 
         int product(int a, int b) {
-            return mod(a * b);
+            return p < 1 ? 0 : Math.floorMod(a * b, p);
         }
 
         /** OVER x; 0, if x is 0. */
@@ -1242,7 +1260,6 @@ public final class DoubleRootSums {
             Exponents exponents = terms.exponents;
             span = exponents.span();
             Arrays.fill(numbers, 0);
-            Arrays.fill(slope, 0);
             for (int place = 0; place < exponents.many; place++) {
                 int i = exponents.exponentAt(place) - exponents.first();
                 if (i >= 0 && i < numbers.length) {
@@ -1367,35 +1384,18 @@ public final class DoubleRootSums {
         int determinant() {
             int product = 1;
             for (int column = 0; column < size; column++) {
-                int pivot = pivotOf(column);
+                int pivot = rowNotZero(cells, column, column, size);
                 if (pivot < 0) {
                     return 0;
                 }
                 if (pivot != column) {
-                    swapRows(pivot, column);
+                    swapRows(cells, pivot, column, size);
                     product = field.mod(-product);
                 }
                 product = field.product(product, cells[column][column]);
                 clearBelow(column);
             }
             return product;
-        }
-
-        private int pivotOf(int column) {
-            for (int i = column; i < size; i++) {
-                if (cells[i][column] != 0) {
-                    return i;
-                }
-            }
-            return -1;
-        }
-
-        private void swapRows(int one, int other) {
-            for (int j = 0; j < size; j++) {
-                int had = cells[one][j];
-                cells[one][j] = cells[other][j];
-                cells[other][j] = had;
-            }
         }
 
         private void clearBelow(int column) {
@@ -1434,9 +1434,9 @@ public final class DoubleRootSums {
             int settled = 0;
             // The last RELATION first: so what stays free comes early, where 0 is the least.
             for (int column = unknowns - 1; column >= 0; column--) {
-                int pivot = pivotOf(column, settled);
+                int pivot = rowNotZero(cells, column, settled, rows);
                 if (pivot >= 0) {
-                    swapRows(pivot, settled);
+                    swapRows(cells, pivot, settled, unknowns + 1);
                     clearOthers(settled, column);
                     found[column] = settled + 1;
                     settled++;
@@ -1458,23 +1458,6 @@ public final class DoubleRootSums {
                 }
                 cells[place][unknowns] =
                         field.product(terms.numberAt(place), field.power(x, exponents.exponentAt(place)));
-            }
-        }
-
-        private int pivotOf(int column, int from) {
-            for (int i = from; i < rows; i++) {
-                if (cells[i][column] != 0) {
-                    return i;
-                }
-            }
-            return -1;
-        }
-
-        private void swapRows(int one, int other) {
-            for (int j = 0; j <= unknowns; j++) {
-                int had = cells[one][j];
-                cells[one][j] = cells[other][j];
-                cells[other][j] = had;
             }
         }
 

@@ -806,12 +806,25 @@ public final class ModelTests {
     }
   }
 
-  static void oneRun(int number) {
+  /** More steps than can be taken back, and back again. */
+  static void manySteps(DoubleRootSums x, Model m) {
+    int[] kinds = {0, 5, 5, 5, 6};
+    for (int i = 0; i < 14; i++) {
+      int c = kinds[draw(kinds.length)];
+      call(x, m, c, arguments(m, c), 0);
+    }
+    for (int i = between(3, 9); i > 0; i--) {
+      call(x, m, 30, new int[5], 0);
+      call(x, m, 28, arguments(m, 28), 0);
+    }
+  }
+
+  static void oneRun() {
     DoubleRootSums x = new DoubleRootSums();
     Model m = new Model();
     run.clear();
     int begin = calls;
-    while (calls - begin < CALLS - 110) {
+    while (calls - begin < CALLS - 140) {
       int c = draw(CALLED.length);
       boolean brings = c == 4 || c == 13 || c == 18 || c == 19 || c == 1;
       // Else all rooms would soon be full.
@@ -823,13 +836,14 @@ public final class ModelTests {
       }
       if (c == 29 && draw(2) == 0) call(x, m, 28, arguments(m, 28), 0);
       if (c == 17 && draw(2) == 0) call(x, m, 16, arguments(m, 16), 0);
+      if (draw(200) == 0) manySteps(x, m);
       call(x, m, c, arguments(m, c), someLong());
     }
     for (int what = 0; what < 8; what++) call(x, m, 37, new int[] {what, 0, 0, 0, 0}, 0);
   }
 
   public static void main(String[] args) {
-    for (int i = 0; i < RUNS; i++) oneRun(i);
+    for (int i = 0; i < RUNS; i++) oneRun();
     for (int c = 0; c < CALLED.length; c++) {
       boolean neverRefuses = c == 35;
       if (answered[c] < 200 || refused[c] < 20 && !neverRefuses) {

@@ -819,6 +819,7 @@ public final class PromiseTests {
     for (int i = 7; i >= 0; i--) due("back", x.back(), i);
     due("told", x.at(0, 1, 0), 3);
     due("none", x.back(), -3);
+    mixedStepsDue();
     stepsEndDue(x, 0);
     stepsEndDue(x, 1);
     stepsEndDue(x, 2);
@@ -832,6 +833,45 @@ public final class PromiseTests {
     x.image();
     x.list(0, 3);
     due("these leave them", x.count(6), 1);
+  }
+
+  /** Twelve steps of all kinds at two SUMS; the last eight are taken back one by one. */
+  static void mixedStepsDue() {
+    DoubleRootSums x = new DoubleRootSums();
+    x.support(bits(0, 3, 7));
+    x.sum(0, 1, 2);
+    x.sum(0, 2, 3);
+    for (int i = 0; i < 4; i++) x.number(i % 2, i < 2 ? 0 : 3, 40 + i);
+    x.number(0, 3, 11);
+    x.turn(1, 4, 5);
+    x.number(1, 7, 12);
+    x.prime(5);
+    x.turn(0, 5, 9);
+    x.number(1, 0, 13);
+    x.number(0, 7, 14);
+    x.prime(6);
+    int[] fields = {x.at(0, 7, 0), x.at(1, 0, 0), 10 * x.ofSum(0, 1) + x.ofSum(0, 2), x.at(1, 7, 0), 10 * x.ofSum(1, 1) + x.ofSum(1, 2), x.at(0, 3, 0)};
+    int[] now = {14, 13, 59, 12, 45, 11};
+    for (int i = 0; i < 6; i++) due("told now " + i, fields[i], now[i]);
+    due("back", x.back(), 7);
+    due("prime", x.count(0), 19);
+    due("back", x.back(), 6);
+    due("told", x.at(0, 7, 0), 0);
+    due("back", x.back(), 5);
+    due("told", x.at(1, 0, 0), 41);
+    due("back", x.back(), 4);
+    due("turned back", 10 * x.ofSum(0, 1) + x.ofSum(0, 2), 12);
+    due("back", x.back(), 3);
+    due("prime", x.count(0), 7);
+    due("back", x.back(), 2);
+    due("told", x.at(1, 7, 0), 0);
+    due("back", x.back(), 1);
+    due("turned back", 10 * x.ofSum(1, 1) + x.ofSum(1, 2), 23);
+    due("back", x.back(), 0);
+    due("told", x.at(0, 3, 0), 42);
+    due("told", x.at(0, 0, 0), 40);
+    due("told", x.at(1, 3, 0), 43);
+    due("none", x.back(), -3);
   }
 
   static void stepsEndDue(DoubleRootSums x, int by) {
@@ -959,6 +999,19 @@ public final class PromiseTests {
     x.number(0, 0, 5);
     due("again", x.restore(), 1);
     due("the image stays", x.at(0, 0, 0), 1);
+    x.see(-1, 0);
+    x.see(2, 0);
+    x.restore();
+    due("the rows seen are as they were", x.fits(0, 1, 1), 1);
+    int later = x.sum(0, 0, 0);
+    x.number(later, 0, 77);
+    x.restore();
+    due("a new sum", x.sum(0, 0, 0), later);
+    due("told is 0 at first", x.at(later, 0, 0), 0);
+    x.support(bits(3, 4));
+    x.image();
+    x.restore();
+    due("a later image", x.ofSupport(1, 0), bits(3, 4));
   }
 
   static void promise39() {
