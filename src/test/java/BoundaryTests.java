@@ -1091,14 +1091,16 @@ public final class BoundaryTests {
       x.support(bits(0, 1, 2, 3, 4));
       listOf(x, 0, 1, 2, 3);
       int s = x.formed(0, 2, 0);
-      listOf(x, 0, 4, 3, 4);
-      int other = x.formed(1, 3, 0);
-      long[] want = {0, 1, 2}, wantOther = {4, 3, 4};
-      for (int round = 0; round < 2; round++)
+      long[] want = {0, 1, 2};
+      for (int t = 0; t < 5; t++) {
+        listOf(x, 0, t, 3, 4 - t);
+        int other = x.formed(1, 3, 0);
+        long[] wantOther = {t, 3, 4 - t};
         for (int i = 0; i < 3; i++) {
           due("of the other", x.by(other, 3, i), wantOther[i]);
           due("of 1, 2, 3", x.by(s, 2, i), want[i]);
         }
+      }
     });
     sentence(17, "BY: such t (0 .. p less 1 each)", "each t, 0 and p less 1 too, by each PRIME", () -> {
       for (int k = 0; k < 9; k++) {
